@@ -927,7 +927,7 @@ public final class BlowerBreath {
                 case LAUGH:
                     return 2 * (need + 1);
                 case OLD:
-                    return hoursToRest(number) == 0 ? 0 : need;
+                    return number % 3 == 2 ? 0 : need;
                 default:
                     return need;
             }
@@ -1067,13 +1067,13 @@ public final class BlowerBreath {
             if (isIn(leakSet, i)) {
                 air = Math.max(0, air - 1);
             }
-            int want = wantNext(i);
+            int want = Kind.want(kind[i], need[i], number);
             if (want == 0) {
                 return false;
             }
             if (air >= want) {
                 air -= want;
-                save(i);
+                save(i, Kind.keeps(kind[i]));
                 return true;
             }
             if (air + saved[i] >= want) {
@@ -1088,8 +1088,7 @@ public final class BlowerBreath {
         }
 
         /** Also one that can SAVE no more takes what it KEEPS: that is lost. */
-        private void save(int i) {
-            int keeps = Kind.keeps(kind[i]);
+        private void save(int i, int keeps) {
             if (air >= keeps) {
                 air -= keeps;
                 saved[i] = Math.min(SAVED_MOST, saved[i] + keeps);

@@ -338,5 +338,20 @@ public final class DeedsTest {
         x.undo(0);
         C.due("21 the later one", x.on(1), 2);
         C.due("21 air then", x.count(1), 8);
+        x.undo(0);
+        x.pump(-1);
+        x.leak(1);
+        x.keep(2);
+        x.undo(0);
+        x.pump(7);
+        x.leak(0);
+        C.due("21 by how much, and which pipe", x.on(2), 2);
+        C.due("21 air then", x.count(1), 4);
+        C.due("21 what leaks then", x.count(6), 2);
+        x.undo(1);
+        C.due("21 air when undone", x.count(1), 4);
+        C.due("21 on(1)", x.on(1), 2);
+        C.due("21 air then", x.count(1), 8);
+        C.due("21 nothing leaks then", x.count(6), 0);
     }
 }

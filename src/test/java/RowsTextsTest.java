@@ -149,6 +149,9 @@ public final class RowsTextsTest {
         C.due("7 mean of least ones", Towns.asked(x, x.mean(0)), Integer.MIN_VALUE);
         Towns.fill(x, 0, -1, 0);
         C.due("7 mean of -1, 0", Towns.asked(x, x.mean(0)), 0);
+        x.row(0, 40);
+        x.lay(0, 39, 120);
+        C.due("7 mean of forty", Towns.asked(x, x.mean(0)), 3);
         x.row(0, 0);
         C.refused("7 mean of none", x, x.mean(0), Towns.NOUGHT);
         x.tear(0);
