@@ -236,7 +236,8 @@ public final class BlowerBreath {
     }
 
     public int undo(int n) {
-        if (n < 0 || n >= deeds.size) {
+        // the number that the next DEED would have is one, too: from it on there is nothing to be undone
+        if (n < 0 || n > deeds.size) {
             return BAD;
         }
         int undone = deeds.size - n;

@@ -243,6 +243,8 @@ public final class DeedsTest {
         C.due("38 lots(1, 1)", x.lots(1, 1), BlowerBreath.FULL);
         C.due("38 BAD ahead of FULL", x.lots(0, 1), BlowerBreath.BAD);
         C.due("14 FULL changes nothing", x.digest(), before);
+        C.due("19 undo(41) of 40", x.undo(41), BlowerBreath.BAD);
+        C.due("19 undo(40) of 40", x.undo(40), 0);
         C.due("19 the last one undone", x.undo(39), 1);
         C.due("14 room for one", x.hour(), 0);
         C.due("14 none for the next", x.hour(), BlowerBreath.FULL);
@@ -268,9 +270,11 @@ public final class DeedsTest {
         digests[7] = x.digest();
         x.hour();
         digests[8] = x.digest();
-        C.due("19 undo(8): there is no such deed", x.undo(8), BlowerBreath.BAD);
+        C.due("19 undo(9): the next deed has no such number", x.undo(9), BlowerBreath.BAD);
+        C.due("19 undo(39)", x.undo(39), BlowerBreath.BAD);
+        C.due("19 undo(8): from the next deed on there are none", x.undo(8), 0);
         C.due("19 undo(-1)", x.undo(-1), BlowerBreath.BAD);
-        C.due("19 BAD changes nothing", x.digest(), digests[8]);
+        C.due("19 BAD, or none undone, changes nothing", x.digest(), digests[8]);
         C.due("19 undo(7)", x.undo(7), 1);
         C.due("19 as it was", x.digest(), digests[7]);
         C.due("19 undo(4)", x.undo(4), 3);
@@ -281,8 +285,10 @@ public final class DeedsTest {
         }
         C.due("19 undo(0)", x.undo(0), 1);
         C.due("19 as it was", x.digest(), digests[0]);
-        C.due("19 none is left", x.undo(0), BlowerBreath.BAD);
-        C.due("19 without pipes", new BlowerBreath().undo(0), BlowerBreath.BAD);
+        C.due("19 none is left", x.undo(0), 0);
+        C.due("19 as it was", x.digest(), digests[0]);
+        C.due("19 none is left, undo(1)", x.undo(1), BlowerBreath.BAD);
+        undoWithoutPipes();
         BlowerBreath y = Towns.of("a609o02l01");
         long first = y.digest();
         y.lots(20, 7);
@@ -292,6 +298,15 @@ public final class DeedsTest {
         C.due("19 as it was", y.digest(), then);
         C.due("19 all of them", y.undo(0), 20);
         C.due("19 as it was at first", y.digest(), first);
+    }
+
+    private static void undoWithoutPipes() {
+        BlowerBreath x = new BlowerBreath();
+        long before = x.digest();
+        C.due("19 without pipes", x.undo(0), 0);
+        C.due("19 without pipes, undo(1)", x.undo(1), BlowerBreath.BAD);
+        C.due("19 without pipes, undo(-1)", x.undo(-1), BlowerBreath.BAD);
+        C.due("19 without pipes nothing changes", x.digest(), before);
     }
 
     private static void keepAndOn() {

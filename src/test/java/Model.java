@@ -517,7 +517,7 @@ public final class Model {
     }
 
     public int undo(int n) {
-        if (outside(n, 0, deeds() - 1)) {
+        if (outside(n, 0, deeds())) {
             return -1;
         }
         int undone = deeds() - n;

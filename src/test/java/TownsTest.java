@@ -46,7 +46,7 @@ public final class TownsTest {
         }
         C.refused("11 kept towns go", x, x.on(2), Towns.NOTHING);
         C.due("11 what was told stays", x.upper(), 1);
-        C.due("11 no deeds to be undone", x.undo(0), BlowerBreath.BAD);
+        C.due("11 no deeds to be undone", x.undo(0), 0);
     }
 
     private static void townRefused() {
