@@ -26,6 +26,14 @@ final class Check {
         due(call + ", finding()", x.finding(), finding);
     }
 
+    int right() {
+        return right;
+    }
+
+    int wrong() {
+        return wrong;
+    }
+
     void end() {
         System.out.println(name + ": " + right + " right, " + wrong + " wrong");
         if (wrong != 0 || right == 0) {
