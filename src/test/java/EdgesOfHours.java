@@ -97,10 +97,10 @@ final class EdgesOfHours extends Edges {
     /** A SAVER that SAVED 3, and no AIR. */
     private Run savedThree(String need) {
         Run x = town("a609s0" + need).does("hour").does("hour").does("hour").fact(3, 0, 4).does("stroke", 0);
-        while (x.call("count", 1) > 0) {
-            x.does("pump", -(int) Math.min(9, x.call("count", 1)));
+        for (int air = (int) x.call("count", 1); air > 0; air -= 9) {
+            x.does("pump", -Math.min(9, air));
         }
-        return x;
+        return x.counts(0, 1);
     }
 
     @Says(promise = 0, words = "If there is less, but with what it SAVED as much, it takes all the AIR, the rest of "
